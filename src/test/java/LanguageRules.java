@@ -36,6 +36,7 @@ public final class LanguageRules {
         private final Set<String> publicNames = new HashSet<>();
         private final Set<String> otherNames = new HashSet<>();
         private final Set<String> classes = new HashSet<>();
+        private final Set<String> owners = new HashSet<>();
         private final Map<String, Set<String>> calls = new HashMap<>();
         private String method = "";
 
@@ -102,8 +103,6 @@ public final class LanguageRules {
             if (Character.isUpperCase(of.charAt(0)) && of.equals(of.split("[^A-Za-z]")[0]) && !TYPES.contains(of) && of.chars().anyMatch(Character::isLowerCase)) owners.add(of);
             return super.visitMemberSelect(tree, v);
         }
-
-        private final Set<String> owners = new HashSet<>();
 
         @Override public Void visitThrow(ThrowTree tree, Void v) { refuse(tree, "throw"); return super.visitThrow(tree, v); }
         @Override public Void visitTry(TryTree tree, Void v) { refuse(tree, "try"); return super.visitTry(tree, v); }

@@ -31,6 +31,7 @@ public final class PromiseTests {
         shelves();
         acts();
         keepAndAgain();
+        farNumbers();
         if (wrong != 0) System.exit(1);
     }
 
@@ -124,7 +125,7 @@ public final class PromiseTests {
             "pay if 1=1 and;", "pay if 1=1 and or 2=2;", "pay if not;", "pay if coin not<3;", "pay if coin<3 coin;", "pay if Coin<3;",
             "pay if 1=1=1;", "pay if 1<=1;", "pay\t;", "Pay;", "pay if if<3;", "pay if coinday<3;", "pay if 1 = 12 3;", "pay if ()=1;", "pay if 1=1 not 2=2;",
             "pay;pay;pay;pay;pay;pay;pay;pay; ask;", "pay;pay;pay;pay;pay;pay;pay;pay;1", "pay if (1)=1;", "\u00e9", "pay if 1\u00ff=1;", "and;", "if 1=1;", "pay;3",
-            "ask if(1=1)or((2=2)and(((3=3))));",
+            "ask if(1=1)or((2=2)and(((3=3))));", "askz;", "aask;", "pay if zcoin<1;", "pay if 1<2 or`;", "pay if 1</;", "pay if 1<:;",
         };
         int[] fault = {
             3, 4, 1, 4, 4, 6, 7, 7, 11, 12, 13,
@@ -132,13 +133,31 @@ public final class PromiseTests {
             14, 15, 10, 12, 14, 7,
             10, 9, 3, 0, 7, 7, 14, 8, 11,
             33, 32, 9, 0, 8, 0, 0, 4,
-            24,
+            24, 0, 0, 7, 13, 9, 9,
         };
         for (int i = 0; i < bad.length; i++) {
             due(3, "rules() of '" + bad[i] + "'", rulesOf(x, bad[i]), -100 - fault[i]);
             due(3, "many(6) after '" + bad[i] + "'", x.many(6), 0);
             due(3, "many(2) after '" + bad[i] + "'", x.many(2), 2);
         }
+        fullTapes();
+    }
+
+    private static void fullTapes() {
+        CrashTies x = new CrashTies();
+        due(3, "rules() of 200 tokens", rulesOf(x, ";".repeat(200)), -100);
+        due(3, "rules() of 200 blanks", rulesOf(x, " ".repeat(200)), 0);
+        due(3, "rules() of 'pay if ' and brackets", rulesOf(x, "pay if " + "(".repeat(193)), -110);
+        due(3, "rules() of 49 nots", rulesOf(x, "ask if" + " not".repeat(47) + " 1=2;"), 1);
+        x.claim(0, 0, 0, 0, 0);
+        due(25, "says(0) by 47 nots", x.says(0), 1);
+        due(3, "rules() of 47 comparisons that must go on", rulesOf(x, "ask if" + " not".repeat(48) + "!!"), -298);
+        due(3, "rules() of an end at 200", rulesOf(x, "ask if" + " not".repeat(48) + "  "), -300);
+        String many = "ask if 1=2" + "or 1=2".repeat(30) + "or 1=1;";
+        due(3, "rules() of many that are or", rulesOf(x, many), 1);
+        due(25, "says(0) by many that are or", x.says(0), 1);
+        due(3, "rules() of many that are and", rulesOf(x, many.replace("or", "and").substring(0, 10 + 7 * 20) + ";"), 1);
+        due(25, "says(0) by many that are and", x.says(0), 0);
     }
 
     private static void sizes() {
@@ -847,5 +866,81 @@ public final class PromiseTests {
         x.size(1, 11);
         x.again();
         due(44, "size(1, 12) of what was kept latest", x.size(1, 12), 50);
+    }
+
+    /** Numbers far beyond are refused, and none of them makes a call throw. */
+    private static void farNumbers() {
+        CrashTies x = threeTied();
+        x.prove();
+        x.sheet(0, 0, 4);
+        x.shelf(0, 0, 0);
+        x.act(0, 3, 7);
+        for (int far : new int[] {Integer.MIN_VALUE, Integer.MIN_VALUE + 1, -1000000, 1000000, 1 << 30, Integer.MAX_VALUE}) {
+            due(2, "feed(1, far)", x.feed(1, far), -1);
+            due(4, "size(far, 10)", x.size(far, 10), -1);
+            due(4, "size(0, far)", x.size(0, far), -1);
+            due(5, "person(far, true)", x.person(far, true), -1);
+            due(6, "personOf(far, 0)", x.personOf(far, 0), -1);
+            due(6, "personOf(0, far)", x.personOf(0, far), -1);
+            due(7, "join(far, 0)", x.join(far, 0), -1);
+            due(7, "join(0, far)", x.join(0, far), -1);
+            due(8, "claim(far, ..)", x.claim(far, far, far, far, far), -1);
+            due(9, "claimOf(far, 0)", x.claimOf(far, 0), -1);
+            due(9, "claimOf(0, far)", x.claimOf(0, far), -1);
+            due(10, "seat(far, 0, 0)", x.seat(far, 0, 0), -1);
+            due(10, "seat(0, far, 0)", x.seat(0, far, 0), -1);
+            due(10, "seat(0, 0, far)", x.seat(0, 0, far), -1);
+            due(11, "set(far, 1)", x.set(far, 1), -1);
+            due(11, "set(0, far)", x.set(0, far), -1);
+            due(12, "tie(far, 0)", x.tie(far, 0), -1);
+            due(12, "tie(0, far)", x.tie(0, far), -1);
+            due(13, "tied(far)", x.tied(far), -1);
+            due(14, "hang(far)", x.hang(far), -1);
+            due(15, "steps(far, 0)", x.steps(far, 0), -1);
+            due(15, "steps(0, far)", x.steps(0, far), -1);
+            due(16, "turned(far)", x.turned(far), -1);
+            due(17, "score(far)", x.score(far), -1);
+            due(18, "lot(far)", x.lot(far), -1);
+            due(19, "seen(far)", x.seen(far), -1);
+            due(20, "without(far)", x.without(far), -1);
+            due(22, "odds(far, 0)", x.odds(far, 0), -1);
+            due(22, "odds(0, far)", x.odds(0, far), -1);
+            due(23, "likely(far)", x.likely(far), -1);
+            due(24, "best(far)", x.best(far), -1);
+            farOnTheHost(x, far);
+        }
+        due(42, "many(0)", x.many(0), 1);
+        due(42, "many(1)", x.many(1), 4);
+        due(42, "many(5)", x.many(5), 3);
+    }
+
+    private static void farOnTheHost(CrashTies x, int far) {
+        due(25, "says(far)", x.says(far), -1);
+        due(26, "found(far, 1, true)", x.found(far, 1, true), -1);
+        due(26, "found(0, far, true)", x.found(0, far, true), -1);
+        due(27, "rate(far)", x.rate(far), -1);
+        due(28, "right(far)", x.right(far), -1);
+        due(32, "row(far, 0)", x.row(far, 0), -9);
+        due(32, "row(0, far)", x.row(0, far), -9);
+        due(33, "alterRow(far, 0, 0)", x.alterRow(far, 0, 0), -9);
+        due(33, "alterRow(0, far, 0)", x.alterRow(0, far, 0), -9);
+        due(35, "sheet(far, 0, 0)", x.sheet(far, 0, 0), -1);
+        due(35, "sheet(0, far, 0)", x.sheet(0, far, 0), -1);
+        due(35, "sheet(0, 0, far)", x.sheet(0, 0, far), far < 0 ? -14 : -1);
+        due(36, "put(far, 0, 0)", x.put(far, 0, 0), -1);
+        due(36, "put(0, far, 0)", x.put(0, far, 0), -12);
+        due(37, "item(far, 0, 0)", x.item(far, 0, 0), -1);
+        due(37, "item(0, far, 0)", x.item(0, far, 0), -1);
+        due(37, "item(0, 0, far)", x.item(0, 0, far), -12);
+        due(38, "shelf(far, 0, 0)", x.shelf(far, 0, 0), -1);
+        due(38, "shelf(0, far, 0)", x.shelf(0, far, 0), -1);
+        due(38, "shelf(0, 0, far)", x.shelf(0, 0, far), -1);
+        due(39, "taken(far, 0)", x.taken(far, 0), -1);
+        due(39, "taken(0, far)", x.taken(0, far), -1);
+        x.act(0, 3, far);
+        due(41, "trace(far)", x.trace(far), -3);
+        due(40, "act(far, 0, 0)", x.act(far, 0, 0), 0);
+        due(40, "act(0, far, 0)", x.act(0, far, 0), 0);
+        due(42, "many(far)", x.many(far), -1);
     }
 }
