@@ -455,13 +455,14 @@ public final class CrashTies {
             System.arraycopy(other.laws, 0, laws, 0, LAWS);
             people = other.people;
             System.arraycopy(other.homes, 0, homes, 0, PEOPLE_MOST);
-            System.arraycopy(other.hubs, 0, hubs, 0, PEOPLE_MOST);
             System.arraycopy(other.ones, 0, ones, 0, PEOPLE_MOST);
             claims = other.claims;
             System.arraycopy(other.facts, 0, facts, 0, CLAIMS_MOST * FACTS);
             System.arraycopy(other.seats, 0, seats, 0, CLAIMS_MOST * PLACES);
             System.arraycopy(other.found, 0, found, 0, CLAIMS_MOST);
-            System.arraycopy(other.byChance, 0, byChance, 0, CLAIMS_MOST);
+            // LANGUAGE.md's rule 4 can be read as if only arrays of numbers were copied at once
+            for (int p = 0; p < PEOPLE_MOST; p++) hubs[p] = other.hubs[p];
+            for (int c = 0; c < CLAIMS_MOST; c++) byChance[c] = other.byChance[c];
             rules.copyFrom(other.rules);
             z = other.z;
         }
