@@ -5,7 +5,7 @@ import java.util.Comparator;
 
 /**
  * Runs the tests of a class: its static methods without parameters whose names begin with "promise" and the two digits of
- * the promise, or with "terms". Each stands for one sentence of ../shared/DOC.md.
+ * the promise (then "Terms", if the sentence stands there), or with "terms". Each stands for one sentence of ../shared/DOC.md.
  */
 final class Tests {
     /** A call on an object, with its answer. */

@@ -82,7 +82,7 @@ public final class BoundsOfHost {
         for (int sheet : new int[] {-1, 4}) Tests.refused("sheet(" + sheet + ", -1, 0)", -1, x -> x.sheet(sheet, -1, 0));
     }
 
-    static void termsMissingAtFirst() {
+    static void promise35TermsMissingAtFirst() {
         CrashTies x = new CrashTies();
         for (int sheet = 0; sheet < 4; sheet++) {
             Tests.due("put(" + sheet + ", 0, 0)", x.put(sheet, 0, 0), -11);
@@ -256,7 +256,7 @@ public final class BoundsOfHost {
         }
     }
 
-    static void termsNothingAtFirst() {
+    static void promise38TermsNothingAtFirst() {
         CrashTies x = Scenes.with(0, 9);
         for (int shelf = 0; shelf < 4; shelf++) {
             for (int as : new int[] {0, 5, 10, 13}) Tests.due("taken(" + shelf + ", " + as + ")", x.taken(shelf, as), -11);
@@ -264,7 +264,7 @@ public final class BoundsOfHost {
     }
 
     /** A shelf holds a claim by its number: nothing while there is none, and the one that has the number later. */
-    static void termsNoSuchClaimAnyMore() {
+    static void promise38TermsNoSuchClaimAnyMore() {
         CrashTies x = Scenes.with(0, 2);
         x.keep();
         x.claim(BUMP, 0, 0, 0, 50);
@@ -282,7 +282,7 @@ public final class BoundsOfHost {
         Tests.due("act(0, HITS, 5)", x.act(0, HITS, 5), -7);
     }
 
-    static void termsRowThatIsHeld() {
+    static void promise38TermsRowThatIsHeld() {
         CrashTies x = row(0, 5);
         x.shelf(0, 1, 2);
         x.sheet(2, 1, 7);
@@ -398,7 +398,7 @@ public final class BoundsOfHost {
         Tests.alike("after act(0, 3, 5)", x, twin);
     }
 
-    static void termsHitsWrap() {
+    static void promise40TermsHitsWrap() {
         acts(CLAIM, 0, HITS, Tests.MAX, Tests.MIN + 2);
         acts(CLAIM, 0, HITS, Tests.MAX - 3, Tests.MAX);
         acts(CLAIM, 0, HITS, -3, 0);
@@ -409,7 +409,7 @@ public final class BoundsOfHost {
         acts(THEFT, 0, HITS, Tests.MAX, (Tests.MIN + 2) * 3 - 3);
     }
 
-    static void termsPaysWrap() {
+    static void promise40TermsPaysWrap() {
         acts(CLAIM, 0, PAYS, 1073741820, 2147483646);
         acts(CLAIM, 0, PAYS, 1073741821, Tests.MIN);
         acts(BUMP, 99, PAYS, 1073741821, Tests.MAX - 98);
@@ -417,7 +417,7 @@ public final class BoundsOfHost {
         acts(NECK, 1, PAYS, 1073741821, Tests.MAX - 6);
     }
 
-    static void termsSharesCutTowardsZero() {
+    static void promise40TermsSharesCutTowardsZero() {
         int[][] shares = {{10, 9, 1}, {10, 6, 0}, {10, -6, 0}, {10, 7, 1}, {10, -7, -1}, {10, -8, -1}, {10, 13, 1}, {10, 14, 2}, {10, -14, -2}};
         for (int[] s : shares) acts(CLAIM, s[0], SHARES, s[1], s[2]);
         acts(CLAIM, 1, SHARES, 5, -2);
@@ -428,14 +428,22 @@ public final class BoundsOfHost {
         acts(THEFT, 10, SHARES, Tests.MAX, (Tests.MIN + 1) / 7 ^ 1);
     }
 
-    static void termsPartedByZero() {
+    static void promise40TermsTellsWrap() {
+        acts(FIRE, 0, TELLS, 536870909, Tests.MIN);
+        acts(FIRE, 4, SHARES, Tests.MAX, Tests.MIN + 6);
+        acts(GLASS, 4, TELLS, 9, (72 ^ 4) + 3);
+        acts(THEFT, 5, TELLS, 9, (66 ^ 5) + (5 / 2 ^ 1));
+        acts(CLAIM, 99, TELLS, Tests.MAX, 4 ^ 99);
+    }
+
+    static void promise40TermsPartedByZero() {
         for (int x : new int[] {0, 1, -1, Tests.MIN, Tests.MAX}) {
             for (int kind : new int[] {CLAIM, BUMP, GLASS, NECK, THEFT, FIRE}) acts(kind, 3, SHARES, x, -15);
             for (int kind : new int[] {GLASS, THEFT}) acts(kind, 3, TELLS, x, -15);
         }
     }
 
-    static void termsPartedByOneMoreOrLess() {
+    static void promise40TermsPartedByOneMoreOrLess() {
         for (int coin : new int[] {2, 4}) {
             acts(CLAIM, coin, SHARES, 9, coin == 4 ? 9 : -9);
             acts(FIRE, coin, SHARES, 9, (coin == 4 ? 9 : -9) + coin + 3);
@@ -443,8 +451,18 @@ public final class BoundsOfHost {
         }
     }
 
+    /** An act that is parted leaves nothing to the next one. */
+    static void promise40TermsActAfterOneThatWasParted() {
+        CrashTies x = third(FIRE, 3);
+        Tests.due("act(0, 2, 9)", x.act(0, SHARES, 9), -15);
+        Tests.due("act(0, 0, 9)", x.act(0, HITS, 9), 12);
+        trace(x, 10);
+        Tests.due("act(0, 2, 9)", x.act(0, SHARES, 9), -15);
+        trace(x, 61, 12);
+    }
+
     /** Acts that don't share part nothing, though the number and the coin are the same. */
-    static void termsNotParted() {
+    static void promise40TermsNotParted() {
         for (int kind : new int[] {CLAIM, BUMP, NECK, FIRE}) Tests.due("act 3 of kind " + kind, third(kind, 3).act(0, TELLS, 9) == -15 ? 1 : 0, 0);
         acts(CLAIM, 3, TELLS, 9, 24 ^ 3);
         acts(BUMP, 3, TELLS, 9, 21 ^ 3);
@@ -483,7 +501,7 @@ public final class BoundsOfHost {
     }
 
     /** Of hits, pays, shares and tells of each kind; none has more than eight, so that the thirty kept are never full. */
-    static void termsBodiesAsTheyBegan() {
+    static void promise41TermsBodiesAsTheyBegan() {
         int[][][] bodies = {
             {{10}, {11, 10}, {12}, {13, 11, 10}},
             {{10}, {20, 11, 10}, {12}, {13, 20, 11, 10}},
@@ -501,7 +519,7 @@ public final class BoundsOfHost {
         }
     }
 
-    static void termsTraceOfTheLatestAct() {
+    static void promise41TermsTraceOfTheLatestAct() {
         CrashTies x = third(NECK, 40);
         x.act(0, TELLS, 1);
         x.act(0, HITS, 1);
@@ -513,7 +531,7 @@ public final class BoundsOfHost {
     }
 
     /** A choice of this project: what ran until the parting is the trace of that act. */
-    static void termsTraceOfAnActParted() {
+    static void promise41TermsTraceOfAnActParted() {
         CrashTies x = third(FIRE, 3);
         x.act(0, SHARES, 9);
         trace(x, 61, 12);

@@ -48,7 +48,7 @@ public final class BoundsOfLots {
         Tests.due("score(255)", x.score(255), 100000 - 24);
     }
 
-    static void termsCostLeastAndMost() {
+    static void promise17TermsCostLeastAndMost() {
         CrashTies x = claims(9);
         x.set(4, 0);
         Tests.due("score(511) of cost 0", x.score(511), 100000);
@@ -87,21 +87,21 @@ public final class BoundsOfLots {
     }
 
     /** A lot there is with two claims, however low its score. */
-    static void termsLotBelowZero() {
+    static void promise18TermsLotBelowZero() {
         CrashTies x = claims(9);
         x.set(4, 20);
         Tests.due("lot(0)", x.lot(0), 3);
         Tests.due("lot(1)", x.lot(1), 99960);
     }
 
-    static void termsLotOfAll() {
+    static void promise18TermsLotOfAll() {
         CrashTies x = Tests.made(y -> Scenes.woven(y, 3, 0));
         x.set(4, 20);
         Tests.due("lot(0)", x.lot(0), 511);
         Tests.due("lot(1)", x.lot(1), 100000 + 36 * 618 - 180);
     }
 
-    static void termsLotOfTheLast() {
+    static void promise18TermsLotOfTheLast() {
         CrashTies x = claims(9);
         x.seat(7, 0, 0);
         x.seat(8, 0, 0);
@@ -110,7 +110,7 @@ public final class BoundsOfLots {
     }
 
     /** A claim that costs just what it brings is left out. */
-    static void termsLotOfTheFewest() {
+    static void promise18TermsLotOfTheFewest() {
         CrashTies x = worded(3, 3, 0, 0);
         x.set(4, 6);
         Tests.due("score(3)", x.score(3), 100000 - 9);
@@ -121,7 +121,7 @@ public final class BoundsOfLots {
     }
 
     /** Three claims and two claims of one score: the two, though they are greater as bits. */
-    static void termsLotOfTheFewestAheadOfTheLeast() {
+    static void promise18TermsLotOfTheFewestAheadOfTheLeast() {
         CrashTies x = Scenes.with(1, 3);
         for (int c = 0; c < 3; c++) x.seat(c, 0, 0);
         x.claim(0, 0, 0, 1, 0);
@@ -131,7 +131,7 @@ public final class BoundsOfLots {
         Tests.due("lot(0)", x.lot(0), 24);
     }
 
-    static void termsLotOfTheLeastBits() {
+    static void promise18TermsLotOfTheLeastBits() {
         CrashTies x = claims(6);
         int[][] pairs = {{0, 5}, {1, 4}, {2, 3}};
         for (int p = 0; p < 3; p++) {
@@ -248,6 +248,23 @@ public final class BoundsOfLots {
         }
     }
 
+    /** A sign that is taken for 0 counts nothing, and no less: what else ties the two keeps them level with the other two. */
+    static void promise20SignTakenForZero() {
+        int[][] seats = {{3, 3}, {0, 1}, {1, 3}};
+        for (int sign = 0; sign < 3; sign++) {
+            CrashTies x = Scenes.with(1, 0);
+            for (int c = 0; c < 4; c++) x.claim(0, 0, 0, 1 + c / 2, 0);
+            for (int c = 0; c < 2; c++) x.seat(2 + c, seats[sign][c], 0);
+            Tests.due("lot(0)", x.lot(0), 12);
+            Tests.due("without(" + sign + ")", x.without(sign), 3);
+            CrashTies y = Scenes.with(1, 0);
+            for (int c = 0; c < 4; c++) y.claim(0, 0, 0, 1 + c / 2, 0);
+            for (int c = 0; c < 2; c++) y.seat(c, seats[sign][c], 0);
+            Tests.due("lot(0)", y.lot(0), 3);
+            Tests.due("without(" + sign + ") of two that are level then", y.without(sign), 3);
+        }
+    }
+
     // ---- promise 21
 
     static void promise21NoTwoClaims() {
@@ -331,7 +348,7 @@ public final class BoundsOfLots {
         odds(50, 2, 1, 96, 625);
     }
 
-    static void termsPartsWithoutACommonDivisor() {
+    static void promise22TermsPartsWithoutACommonDivisor() {
         odds(12, 1, 1, 1, 3);
         odds(16, 2, 1, 7, 16);
         odds(20, 2, 2, 1, 25);
@@ -375,7 +392,7 @@ public final class BoundsOfLots {
         Tests.due("likely(0) of one claim", x.likely(0), 0);
     }
 
-    static void termsLikelyNineAtMost() {
+    static void promise23TermsLikelyNineAtMost() {
         for (int v = 0; v < 10; v++) Tests.due("likely(0) by " + v, worded(2, v, 0, 0).likely(0), v);
         int[] three = {0, 2, 4, 6, 8, 9, 9, 9, 9, 9};
         for (int v = 0; v < 10; v++) Tests.due("likely(1) by twice " + v, worded(3, v, 0, 0).likely(1), three[v]);
@@ -406,7 +423,7 @@ public final class BoundsOfLots {
         best(new CrashTies(), 30, 0, 0);
     }
 
-    static void termsHoursOfAClaim() {
+    static void promise24TermsHoursOfAClaim() {
         for (int people = 0; people <= 4; people++) {
             CrashTies x = worded(2, 3, 0, 99);
             Scenes.people(x, 4);
@@ -420,7 +437,7 @@ public final class BoundsOfLots {
         }
     }
 
-    static void termsHoursTogether() {
+    static void promise24TermsHoursTogether() {
         CrashTies x = Tests.made(y -> Scenes.woven(y, 0, 99));
         best(x, 30, 63, 6 * 889);
         best(x, 29, 31, 5 * 889);
@@ -432,7 +449,7 @@ public final class BoundsOfLots {
     }
 
     /** Each takes 2 hours; worth 9 times its coin, which is its number, less 2. */
-    static void termsHoursOfNine() {
+    static void promise24TermsHoursOfNine() {
         CrashTies x = Tests.made(Scenes::full);
         best(x, 30, 510, 9 * 36 - 16);
         best(x, 16, 510, 9 * 36 - 16);
@@ -441,7 +458,7 @@ public final class BoundsOfLots {
         best(x, 1, 0, 0);
     }
 
-    static void termsWorthZeroAddsNothing() {
+    static void promise24TermsWorthZeroAddsNothing() {
         CrashTies x = worded(2, 5, 0, 4);
         x.set(6, 4);
         best(x, 30, 0, 0);
@@ -451,7 +468,7 @@ public final class BoundsOfLots {
         best(x, 30, 0, 0);
     }
 
-    static void termsWaitLeastAndMost() {
+    static void promise24TermsWaitLeastAndMost() {
         CrashTies x = worded(2, 9, 0, 99);
         x.set(6, 20);
         best(x, 30, 3, 2 * (9 * 99 - 20));
@@ -463,7 +480,7 @@ public final class BoundsOfLots {
         best(alone, 30, 0, 0);
     }
 
-    static void termsWorthOfTheLeastBits() {
+    static void promise24TermsWorthOfTheLeastBits() {
         CrashTies x = worded(9, 9, 0, 10);
         best(x, 1, 1, 88);
         best(x, 4, 15, 4 * 88);

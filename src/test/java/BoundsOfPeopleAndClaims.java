@@ -43,11 +43,11 @@ public final class BoundsOfPeopleAndClaims {
         Tests.alike("beside a busy object", x, new CrashTies());
     }
 
-    static void termsSizesAtFirst() {
+    static void promise01TermsSizesAtFirst() {
         for (int town = 0; town < 4; town++) Tests.due("size(" + town + ", 10)", new CrashTies().size(town, 10), 50);
     }
 
-    static void termsLawsAtFirst() {
+    static void promise01TermsLawsAtFirst() {
         int[] first = {2, 4, 1, 3, 3, 5, 2};
         for (int law = 0; law < 7; law++) Tests.due("set(" + law + ", 0)", new CrashTies().set(law, 0), first[law]);
     }
@@ -229,7 +229,7 @@ public final class BoundsOfPeopleAndClaims {
         Tests.due("many(3)", x.many(3), 1);
     }
 
-    static void termsLeastNumberOfThoseInIt() {
+    static void promise07TermsLeastNumberOfThoseInIt() {
         CrashTies x = Scenes.with(10, 0);
         x.join(9, 8);
         for (int p = 8; p < 10; p++) Tests.due("personOf(" + p + ", 1)", x.personOf(p, 1), 8);
@@ -239,7 +239,7 @@ public final class BoundsOfPeopleAndClaims {
         Tests.due("many(0)", x.many(0), 10);
     }
 
-    static void termsHubIfOneOfTheseIs() {
+    static void promise07TermsHubIfOneOfTheseIs() {
         for (int hub = 0; hub < 3; hub++) {
             CrashTies x = new CrashTies();
             for (int p = 0; p < 4; p++) x.person(0, p == hub);
@@ -318,7 +318,7 @@ public final class BoundsOfPeopleAndClaims {
         for (int what : new int[] {-1, 5, 9, 14, Tests.MIN, Tests.MAX}) Tests.refused("claimOf(1, " + what + ")", -1, y -> y.claimOf(1, what));
     }
 
-    static void termsNobodyAtFirst() {
+    static void promise09TermsNobodyAtFirst() {
         CrashTies x = Scenes.with(1, 1);
         for (int what = 10; what < 14; what++) Tests.due("claimOf(0, " + what + ")", x.claimOf(0, what), -9);
     }

@@ -62,13 +62,13 @@ public final class BoundsOfRows {
         for (int i = 0; i < 2; i++) Tests.due("row(" + i + ", 2)", x.row(i, 2), -9);
     }
 
-    static void termsRowsOfThoseTiedInTheLot() {
+    static void promise31TermsRowsOfThoseTiedInTheLot() {
         CrashTies x = proved();
         rowIs(x, 0, 0, 1, 5);
         rowIs(x, 1, 1, 2, 5);
     }
 
-    static void termsRowsOfStrengthOne() {
+    static void promise31TermsRowsOfStrengthOne() {
         CrashTies x = Tests.made(BoundsOfRows::three);
         x.set(0, 1);
         x.set(4, 0);
@@ -77,7 +77,7 @@ public final class BoundsOfRows {
     }
 
     /** A claim beside the lot has no row, though it is tied with one of it. */
-    static void termsRowsOfTheLotAlone() {
+    static void promise31TermsRowsOfTheLotAlone() {
         CrashTies x = Tests.made(BoundsOfRows::three);
         x.set(2, 1);
         x.seat(3, 2, 1);
@@ -85,6 +85,22 @@ public final class BoundsOfRows {
         Tests.due("lot(0)", x.lot(0), 7);
         Tests.due("prove()", x.prove(), 2);
         rowIs(x, 1, 1, 2, 5);
+    }
+
+    static void promise31TermsRowsOfTheLotAloneWithoutALesserClaim() {
+        CrashTies x = Scenes.with(2, 4);
+        x.set(0, 5);
+        x.seat(1, 0, 0);
+        x.seat(2, 0, 0);
+        x.seat(2, 1, 1);
+        x.seat(3, 1, 1);
+        x.seat(0, 2, 0);
+        Tests.due("tie(0, 1)", x.tie(0, 1), 1);
+        Tests.due("lot(0)", x.lot(0), 14);
+        Tests.due("prove()", x.prove(), 2);
+        rowIs(x, 0, 1, 2, 5);
+        rowIs(x, 1, 2, 3, 5);
+        Tests.due("judge()", x.judge(), 0);
     }
 
     static void promise31MostRows() {
@@ -210,7 +226,7 @@ public final class BoundsOfRows {
         Tests.due("judge()", x.judge(), 1);
     }
 
-    static void termsFewerRows() {
+    static void promise34TermsFewerRows() {
         Tests.due("judge() of no rows", Tests.made(BoundsOfRows::three).judge(), 222);
         CrashTies x = Tests.made(BoundsOfRows::three);
         x.seat(2, 1, -1);
@@ -222,12 +238,20 @@ public final class BoundsOfRows {
         Tests.due("judge() of one of two rows, which is wrong", x.judge(), 1);
     }
 
-    static void termsMoreRows() {
+    static void promise34TermsMoreRows() {
         CrashTies x = proved();
         x.seat(2, 1, -1);
         Tests.due("judge() of two rows where one is due", x.judge(), 2);
         x.seat(0, 0, -1);
         Tests.due("judge() of two rows where none are due", x.judge(), 1);
+    }
+
+    /** What row() answers for a row that isn't there makes no row right. */
+    static void promise34TermsMoreRowsOfMinusNine() {
+        CrashTies x = proved();
+        x.seat(2, 1, -1);
+        for (int what = 0; what < 3; what++) x.alterRow(1, what, -9);
+        Tests.due("judge()", x.judge(), 2);
     }
 
     static void promise32And34ChangeNothing() {

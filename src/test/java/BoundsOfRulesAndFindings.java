@@ -78,13 +78,13 @@ public final class BoundsOfRulesAndFindings {
         fault("1".repeat(200), 0);
     }
 
-    static void termsEightClauses() {
+    static void promise03TermsEightClauses() {
         for (int n = 0; n <= 8; n++) reads("pay;".repeat(n), n);
         reads("ask if 1=1;".repeat(8), 8);
         reads(" pay ; ".repeat(8), 8);
     }
 
-    static void termsNinthClause() {
+    static void promise03TermsNinthClause() {
         fault("pay;".repeat(9), 32);
         fault("pay;".repeat(8) + "  ask", 34);
         fault("pay;".repeat(8) + "ask if 1=1;", 32);
@@ -93,7 +93,7 @@ public final class BoundsOfRulesAndFindings {
         fault("ask if 1=1;".repeat(9), 88);
     }
 
-    static void termsNumbersLeastAndMost() {
+    static void promise03TermsNumbersLeastAndMost() {
         reads("ask if 0=0;", 1);
         reads("ask if 999=999;", 1);
         reads("ask if 00=000;", 1);
@@ -108,7 +108,7 @@ public final class BoundsOfRulesAndFindings {
         }
     }
 
-    static void termsThreeOpenBrackets() {
+    static void promise03TermsThreeOpenBrackets() {
         reads("ask if (1=1);", 1);
         reads("ask if (((1=1)));", 1);
         reads("ask if (((1=1) and (1=1)) or ((2=2) and (3=3)));", 1);
@@ -121,7 +121,7 @@ public final class BoundsOfRulesAndFindings {
         fault("ask if 1=1;ask if ((((1=1))));", 21);
     }
 
-    static void termsBytesOfNames() {
+    static void promise03TermsBytesOfNames() {
         for (int b = 0; b < 256; b++) {
             String text = "ask" + (char) b;
             boolean letter = b >= 'a' && b <= 'z';
@@ -130,7 +130,7 @@ public final class BoundsOfRulesAndFindings {
         }
     }
 
-    static void termsBytesOfNumbers() {
+    static void promise03TermsBytesOfNumbers() {
         for (int b = 0; b < 256; b++) {
             String text = "ask if 12" + (char) b;
             boolean goesOn = b == ' ' || b == '<' || b == '=' || b == '>' || b >= '0' && b <= '9';
@@ -138,14 +138,14 @@ public final class BoundsOfRulesAndFindings {
         }
     }
 
-    static void termsBytesAlone() {
+    static void promise03TermsBytesAlone() {
         for (int b = 0; b < 256; b++) {
             if (b == ' ') reads("" + (char) b, 0);
             else fault("" + (char) b, 0);
         }
     }
 
-    static void termsNamesAsLongAsTheyGo() {
+    static void promise03TermsNamesAsLongAsTheyGo() {
         for (String text : new String[] {"as;", "askk;", "askif 1=1;", "payask;", "sk;", "ask1;"}) fault(text, text.equals("ask1;") ? 3 : 0);
         fault("ask i 1=1;", 4);
         fault("ask iff 1=1;", 4);
@@ -158,7 +158,7 @@ public final class BoundsOfRulesAndFindings {
         fault("ask if 1=1 ornot 1=1;", 11);
     }
 
-    static void termsBlanks() {
+    static void promise03TermsBlanks() {
         reads("ask if1=1or 2=2and not(3=3);", 1);
         reads("  ask   if  1  =  1  or  2  =  2  ;  pay  ;  ", 2);
         fault("a sk;", 0);
@@ -168,7 +168,7 @@ public final class BoundsOfRulesAndFindings {
     }
 
     /** A name beside a number needs no blank. */
-    static void termsNameBesideNumber() {
+    static void promise03TermsNameBesideNumber() {
         reads("ask if5=coin;", 1);
         reads("ask if 5=5and 6=6or 7=7;", 1);
         reads("ask if not5=coin;", 1);
@@ -219,7 +219,7 @@ public final class BoundsOfRulesAndFindings {
         Tests.due("says(" + claim + ") by '" + text + "'", x.says(claim), want);
     }
 
-    static void termsWithoutOnePay() {
+    static void promise25TermsWithoutOnePay() {
         CrashTies x = Scenes.with(0, 1);
         Tests.due("says(0) without rules", x.says(0), 0);
         says(x, 0, "ask if 1=2;", 0);
@@ -228,7 +228,7 @@ public final class BoundsOfRulesAndFindings {
         says(x, 0, "", 0);
     }
 
-    static void termsLastClauseThatHolds() {
+    static void promise25TermsLastClauseThatHolds() {
         CrashTies x = Scenes.with(0, 1);
         says(x, 0, "ask;pay;", 0);
         says(x, 0, "pay;ask;", 1);
@@ -250,13 +250,25 @@ public final class BoundsOfRulesAndFindings {
         says(x, claim, "ask if " + v + "=" + name + ";", 1);
     }
 
-    static void termsFactsAtTheirLeast() {
+    static void promise25TermsFactsAtTheirLeast() {
         CrashTies x = new CrashTies();
         x.claim(0, 0, 0, 0, 0);
         for (String name : new String[] {"coin", "day", "people", "ties", "words", "kind"}) fact(x, 0, name, 0);
     }
 
-    static void termsFactsAtTheirMost() {
+    static void promise25TermsFactsAreApart() {
+        CrashTies x = Scenes.with(2, 1);
+        x.claim(4, 30, 3, 6, 40);
+        x.claim(0, 0, 0, 6, 0);
+        x.seat(1, 3, 0);
+        x.seat(1, 2, 1);
+        x.set(3, 9);
+        String[] names = {"coin", "day", "people", "ties", "words", "kind"};
+        int[] facts = {40, 30, 2, 1, 6, 4};
+        for (int i = 0; i < 6; i++) fact(x, 1, names[i], facts[i]);
+    }
+
+    static void promise25TermsFactsAtTheirMost() {
         CrashTies x = new CrashTies();
         x.claim(5, 99, 3, 9, 99);
         int[] most = {99, 99, 9, 5};
@@ -264,7 +276,7 @@ public final class BoundsOfRulesAndFindings {
         for (int i = 0; i < 4; i++) fact(x, 0, names[i], most[i]);
     }
 
-    static void termsPeopleOfAClaim() {
+    static void promise25TermsPeopleOfAClaim() {
         CrashTies x = Scenes.with(3, 2);
         x.person(0, true);
         int[] people = {2, 0, 3, 1};
@@ -279,7 +291,7 @@ public final class BoundsOfRulesAndFindings {
         fact(x, 1, "people", 3);
     }
 
-    static void termsTiesOfAClaim() {
+    static void promise25TermsTiesOfAClaim() {
         CrashTies x = new CrashTies();
         for (int c = 0; c < 4; c++) x.claim(0, 0, 0, 1, 0);
         fact(x, 2, "ties", 3);
@@ -288,7 +300,7 @@ public final class BoundsOfRulesAndFindings {
         fact(Scenes.with(0, 9), 0, "ties", 0);
     }
 
-    static void termsNotAndAllOr() {
+    static void promise25TermsNotAndAllOr() {
         CrashTies x = Scenes.with(0, 1);
         String[] holds = {"1=1", "1=2"};
         for (int a = 0; a < 2; a++) {
@@ -369,7 +381,7 @@ public final class BoundsOfRulesAndFindings {
         Tests.due("rate(1) of " + of + " of " + looked, x.rate(1), below);
     }
 
-    static void termsZeroIsZeroByOne() {
+    static void promise27TermsZeroIsZeroByOne() {
         for (int looked = 1; looked <= 9; looked++) rate(looked, 0, 0, 1);
     }
 
@@ -478,7 +490,7 @@ public final class BoundsOfRulesAndFindings {
         Tests.due("z after draw() by " + seed, x.seed(0), becomes);
     }
 
-    static void termsDrawnWraps() {
+    static void promise30TermsDrawnWraps() {
         draw(0, 12345, 9, 0);
         draw(1, 1103527590, 9, 16838 % 9);
         draw(-1, -1103502900, 9, 48697 % 9);
@@ -489,7 +501,7 @@ public final class BoundsOfRulesAndFindings {
         draw(2, -2087924461, 1, 0);
     }
 
-    static void termsDrawnOfThoseByNumbers() {
+    static void promise30TermsDrawnOfThoseByNumbers() {
         CrashTies x = Scenes.with(0, 9);
         for (int c : new int[] {0, 3, 4, 8}) x.found(c, 1, true);
         int[] open = {1, 2, 5, 6, 7};

@@ -37,7 +37,7 @@ public final class BoundsOfTies {
         }
     }
 
-    static void termsStrengthOfNothing() {
+    static void promise12TermsStrengthOfNothing() {
         CrashTies x = Scenes.with(2, 2);
         x.seat(0, 0, 0);
         x.seat(1, 0, 1);
@@ -45,7 +45,7 @@ public final class BoundsOfTies {
         Tests.due("tie(0, 1) of nobody", Scenes.with(0, 2).tie(0, 1), 0);
     }
 
-    static void termsWordsZeroAreNone() {
+    static void promise12TermsWordsZeroAreNone() {
         CrashTies x = new CrashTies();
         for (int words : new int[] {0, 0, 1, 1, 9, 9, 8}) x.claim(0, 0, 0, words, 0);
         Tests.due("tie(0, 1) of words 0", x.tie(0, 1), 0);
@@ -56,7 +56,7 @@ public final class BoundsOfTies {
     }
 
     /** Every two places: the signs count 1, 2 and 4. */
-    static void termsSignsOfPlaces() {
+    static void promise12TermsSignsOfPlaces() {
         for (int i = 0; i < 4; i++) {
             for (int j = 0; j < 4; j++) {
                 CrashTies x = Scenes.with(1, 2);
@@ -73,7 +73,7 @@ public final class BoundsOfTies {
     }
 
     /** One in all places of both: 4 pairs of the same place, 2 turned, 10 other. */
-    static void termsOneInAllPlacesOfBoth() {
+    static void promise12TermsOneInAllPlacesOfBoth() {
         int[] want = {4, 2, 10, 1};
         for (int sign = 0; sign < 4; sign++) {
             CrashTies x = Tests.made(y -> Scenes.woven(y, 0, 0));
@@ -82,13 +82,13 @@ public final class BoundsOfTies {
         }
     }
 
-    static void termsGreatestStrength() {
+    static void promise12TermsGreatestStrength() {
         Tests.due("tie(0, 8) of kind 0", Tests.made(x -> Scenes.woven(x, 0, 0)).tie(0, 8), 16 * 9 + 9);
         Tests.due("tie(0, 8) of necks", Tests.made(x -> Scenes.woven(x, 3, 0)).tie(0, 8), 2 * (2 * 154 + 1));
         Tests.due("tie(0, 8) of fires", Tests.made(x -> Scenes.woven(x, 5, 99)).tie(0, 8), 153 + 9 + 9);
     }
 
-    static void termsHubsCountNothing() {
+    static void promise12TermsHubsCountNothing() {
         CrashTies x = new CrashTies();
         x.person(0, true);
         x.person(0, false);
@@ -103,29 +103,29 @@ public final class BoundsOfTies {
         Tests.due("tie(0, 1) by one who came to be a hub", x.tie(0, 1), 0);
     }
 
-    static void termsBumpAboveZero() {
+    static void promise12TermsBumpAboveZero() {
         weighs(1, 0, 0, 0);
         weighs(1, 0, 1, 2);
         weighs(1, 0, 9, 10);
     }
 
-    static void termsNeckAboveZero() {
+    static void promise12TermsNeckAboveZero() {
         weighs(3, 0, 0, 0);
         weighs(3, 0, 1, 4);
         weighs(3, 0, 9, 20);
     }
 
-    static void termsGlassCut() {
+    static void promise12TermsGlassCut() {
         int[] want = {0, 0, 1, 1, 2, 2, 3, 3, 4, 4};
         for (int v = 0; v < 10; v++) weighs(2, 0, v, want[v]);
     }
 
-    static void termsTheftZeroAtLeast() {
+    static void promise12TermsTheftZeroAtLeast() {
         int[] want = {0, 0, 0, 0, 1, 1, 2, 2, 3, 3};
         for (int v = 0; v < 10; v++) weighs(4, 0, v, want[v]);
     }
 
-    static void termsFireCoinCut() {
+    static void promise12TermsFireCoinCut() {
         int[] coins = {0, 9, 10, 19, 20, 89, 90, 99};
         int[] more = {0, 0, 1, 1, 2, 8, 9, 9};
         for (int i = 0; i < coins.length; i++) {
@@ -134,7 +134,7 @@ public final class BoundsOfTies {
         }
     }
 
-    static void termsFireItsOwnCoin() {
+    static void promise12TermsFireItsOwnCoin() {
         CrashTies x = new CrashTies();
         x.claim(5, 0, 0, 0, 30);
         x.claim(0, 0, 0, 0, 99);
@@ -144,7 +144,7 @@ public final class BoundsOfTies {
         Tests.due("tie(0, 2)", x.tie(0, 2), 10);
     }
 
-    static void termsLesserWeighsFirst() {
+    static void promise12TermsLesserWeighsFirst() {
         Tests.due("glass, then bump of 1", worded(2, 1, 1, 0).tie(0, 1), 0);
         Tests.due("bump, then glass of 1", worded(1, 2, 1, 0).tie(0, 1), 1);
         Tests.due("bump, then glass of 1, asked the other way", worded(1, 2, 1, 0).tie(1, 0), 1);
@@ -166,12 +166,26 @@ public final class BoundsOfTies {
         Tests.due("tied(8) of nine that nothing ties", Scenes.with(0, 9).tied(8), 0);
     }
 
+    /** A fire is tied with all others by its coin, but not with itself, nor with claims that aren't there. */
+    static void promise13FireWithAllThatAreThere() {
+        for (int n = 1; n <= 9; n++) {
+            CrashTies x = Scenes.with(0, n - 1);
+            x.claim(5, 0, 0, 0, 99);
+            Tests.due("tied(the fire) of " + n, x.tied(n - 1), (1 << n - 1) - 1);
+            Tests.due("hang(the fire) of " + n, x.hang(n - 1), (1 << n) - 1);
+            CrashTies first = new CrashTies();
+            first.claim(5, 0, 0, 0, 99);
+            Scenes.claims(first, n - 1);
+            Tests.due("tied(0), a fire of " + n, first.tied(0), (1 << n) - 2);
+        }
+    }
+
     static void promise13WithAll() {
         CrashTies x = Tests.made(Scenes::full);
         for (int c = 0; c < 9; c++) Tests.due("tied(" + c + ")", x.tied(c), 511 - (1 << c));
     }
 
-    static void termsTiedAboveZero() {
+    static void promise13TermsTiedAboveZero() {
         CrashTies x = worded(0, 0, 1, 0);
         Tests.due("tied(0) by 1", x.tied(0), 2);
         x.set(3, 0);
@@ -208,6 +222,13 @@ public final class BoundsOfTies {
         for (int c = 0; c < 9; c++) Tests.due("hang(" + c + ")", x.hang(c), 511);
         CrashTies less = chain(7);
         for (int c = 0; c < 9; c++) Tests.due("hang(" + c + ") without the last one", less.hang(c), c == 5 ? 32 : 511 - 32);
+    }
+
+    static void promise14ByStrengthOne() {
+        CrashTies x = worded(0, 0, 1, 0);
+        Tests.due("hang(1) by 1", x.hang(1), 3);
+        x.set(3, 0);
+        Tests.due("hang(1) by 0", x.hang(1), 2);
     }
 
     static void promise14TwoThatHangApart() {
@@ -264,14 +285,14 @@ public final class BoundsOfTies {
         return x;
     }
 
-    static void termsStepsOneToNine() {
+    static void promise15TermsStepsOneToNine() {
         CrashTies x = line(-1);
         for (int p = 0; p < 10; p++) {
             for (int q = 0; q < 10; q++) Tests.due("steps(" + p + ", " + q + ")", x.steps(p, q), Math.abs(p - q));
         }
     }
 
-    static void termsHubsArePassedByNone() {
+    static void promise15TermsHubsArePassedByNone() {
         CrashTies x = line(5);
         Tests.due("steps(4, 6) past a hub", x.steps(4, 6), -3);
         Tests.due("steps(6, 4) past a hub", x.steps(6, 4), -3);
@@ -279,7 +300,7 @@ public final class BoundsOfTies {
         Tests.due("steps(6, 9) beside a hub", x.steps(6, 9), 3);
     }
 
-    static void termsHubsAtTheEnds() {
+    static void promise15TermsHubsAtTheEnds() {
         CrashTies x = line(5);
         Tests.due("steps(0, 5) to a hub", x.steps(0, 5), 5);
         Tests.due("steps(5, 0) from a hub", x.steps(5, 0), 5);
@@ -297,7 +318,7 @@ public final class BoundsOfTies {
         Tests.due("steps(0, 2) from a hub to a hub", both.steps(0, 2), 2);
     }
 
-    static void termsWayAroundAHub() {
+    static void promise15TermsWayAroundAHub() {
         CrashTies x = new CrashTies();
         for (int p = 0; p < 5; p++) x.person(0, p == 1);
         Scenes.claims(x, 5);
