@@ -71,6 +71,81 @@ public final class BoundsOfKept {
         Tests.alike("after keep() once more", twin, x);
     }
 
+    /** The tape, rows, sheets, shelves and the trace are not kept, and stay as they are, at keep() and at again(). */
+    static void promise43TheOthersStay() {
+        CrashTies x = Tests.made(Scenes::busy);
+        CrashTies twin = Tests.made(Scenes::busy);
+        Tests.due("keep()", x.keep(), 1);
+        for (int what = 0; what < 8; what++) Tests.due("many(" + what + ") after keep()", x.many(what), twin.many(what));
+        Tests.due("many(6) after keep()", x.many(6), 15);
+        Tests.due("row(0, 2) after keep()", x.row(0, 2), 50);
+        Tests.due("trace(0) after keep()", x.trace(0), twin.trace(0));
+        Tests.due("item(0, 0, 1) after keep()", x.item(0, 0, 1), -56);
+        Tests.due("taken(0, 1) after keep()", x.taken(0, 1), 1);
+        Tests.due("taken(1, 10) after keep()", x.taken(1, 10), 3);
+        Scenes.feed(x, "ask;");
+        x.sheet(0, -1, 0);
+        x.sheet(3, 1, 4);
+        x.shelf(1, 2, 0);
+        x.alterRow(0, 2, 51);
+        x.act(3, 0, 0);
+        Tests.due("again()", x.again(), 5);
+        Tests.due("many(6) after again()", x.many(6), 19);
+        Tests.due("item(0, 0, 1) after again()", x.item(0, 0, 1), -11);
+        Tests.due("item(3, 1, 3) after again()", x.item(3, 1, 3), 0);
+        Tests.due("taken(1, 10) after again()", x.taken(1, 10), -11);
+        Tests.due("row(0, 2) after again()", x.row(0, 2), 51);
+        Tests.due("many(7) after again()", x.many(7), 0);
+        Tests.due("rules() of the tape", x.rules(), 2);
+    }
+
+    /** Each place of each of nine claims, each of ten people, each law and each size, up to the last ones. */
+    static void promise43AllPlacesPeopleLawsSizes() {
+        CrashTies x = Scenes.with(10, 9);
+        for (int c = 0; c < 9; c++) {
+            for (int place = 0; place < 4; place++) x.seat(c, place, (c + place) % 10);
+            x.found(c, c % 2, c % 3 == 0);
+        }
+        for (int law = 0; law < 7; law++) x.set(law, law + 1);
+        for (int town = 0; town < 4; town++) x.size(town, 20 + town);
+        x.keep();
+        for (int c = 0; c < 9; c++) {
+            for (int place = 0; place < 4; place++) x.seat(c, place, -1);
+            x.found(c, -1, false);
+        }
+        for (int law = 0; law < 7; law++) x.set(law, 0);
+        for (int town = 0; town < 4; town++) x.size(town, 99);
+        for (int p = 0; p < 9; p++) x.join(p, p + 1);
+        Tests.due("again()", x.again(), 9);
+        for (int p = 0; p < 10; p++) Tests.due("personOf(" + p + ", 1)", x.personOf(p, 1), p);
+        for (int c = 0; c < 9; c++) {
+            for (int place = 0; place < 4; place++) Tests.due("claimOf(" + c + ", 1" + place + ")", x.claimOf(c, 10 + place), (c + place) % 10);
+        }
+        Tests.due("rate(0)", x.rate(0), 1);
+        Tests.due("rate(1)", x.rate(1), 3);
+        for (int c = 0; c < 9; c++) Tests.due("found(" + c + ", ..)", x.found(c, -1, false), c % 2);
+        for (int law = 0; law < 7; law++) Tests.due("set(" + law + ", 0)", x.set(law, 0), law + 1);
+        for (int town = 0; town < 4; town++) Tests.due("size(" + town + ", 50)", x.size(town, 50), 20 + town);
+    }
+
+    /** What is kept is as it was then, whatever comes afterwards. */
+    static void promise43KeptIsApart() {
+        CrashTies x = Tests.made(Scenes::busy);
+        x.again();
+        CrashTies twin = Tests.made(Scenes::busy);
+        twin.again();
+        twin.size(0, 11);
+        twin.set(1, 9);
+        twin.join(0, 2);
+        twin.seat(0, 2, 4);
+        twin.found(3, 1, true);
+        twin.draw();
+        twin.claim(1, 1, 1, 1, 1);
+        twin.person(1, true);
+        twin.again();
+        Tests.alike("after again() and again()", twin, x);
+    }
+
     /** What is kept of each: changed afterwards, it is as it was. */
     static void promise43EachThatIsKept() {
         Tests.Scene[] changes = {

@@ -212,6 +212,16 @@ public final class BoundsOfLots {
         Tests.due("seen(-3)", x.seen(-3), 7);
     }
 
+    /** Claims of that day all count, those of the next day don't. */
+    static void promise19AllOfThatDay() {
+        CrashTies x = new CrashTies();
+        for (int day : new int[] {51, 50, 50, 50}) x.claim(0, day, 0, 1, 0);
+        Tests.due("seen(0), three claims", x.seen(0), 50);
+        Tests.due("seen(1), four claims", x.seen(1), 51);
+        Tests.due("seen(6), four claims", x.seen(6), 51);
+        Tests.due("seen(7)", x.seen(7), -3);
+    }
+
     // ---- promise 20
 
     static void promise20Signs() {
@@ -379,6 +389,31 @@ public final class BoundsOfLots {
         Tests.due("odds(0, 1)", x.odds(0, 1), 25);
     }
 
+    /** The town is the one of the person who is asked about, not of the least one whom he is one with. */
+    static void promise22TownOfThePersonHimself() {
+        CrashTies x = new CrashTies();
+        x.person(0, false);
+        x.person(1, false);
+        x.claim(0, 0, 1, 0, 0);
+        x.seat(0, 0, 1);
+        x.size(0, 10);
+        x.size(1, 12);
+        x.join(0, 1);
+        Tests.due("odds(1, 0)", x.odds(1, 0), 1);
+        Tests.due("odds(1, 1)", x.odds(1, 1), 3);
+        Tests.due("odds(0, 0) of the other town, where no claim is", x.odds(0, 0), 1);
+        Tests.due("odds(0, 1)", x.odds(0, 1), 1);
+    }
+
+    static void promise22HubsToo() {
+        CrashTies x = new CrashTies();
+        x.person(2, true);
+        x.claim(0, 0, 2, 0, 0);
+        x.seat(0, 3, 0);
+        Tests.due("odds(0, 0) of a hub", x.odds(0, 0), 2);
+        Tests.due("odds(0, 1) of a hub", x.odds(0, 1), 25);
+    }
+
     // ---- promise 23
 
     static void promise23Claims() {
@@ -403,6 +438,22 @@ public final class BoundsOfLots {
         bump.set(3, 9);
         Tests.due("likely(0) by 10", bump.likely(0), 9);
         Tests.due("likely(8) of the greatest", Tests.made(x -> Scenes.woven(x, 3, 0)).likely(8), 9);
+    }
+
+    /** Others of other towns, kinds and days count as well, whether they are in the lot or not. */
+    static void promise23WithAllOthers() {
+        CrashTies x = new CrashTies();
+        x.claim(0, 0, 0, 1, 0);
+        x.claim(0, 99, 1, 1, 0);
+        x.claim(5, 50, 3, 0, 25);
+        x.claim(2, 50, 2, 1, 0);
+        Tests.due("likely(0)", x.likely(0), 3 + 2 + 1);
+        Tests.due("likely(1)", x.likely(1), 3 + 2 + 1);
+        Tests.due("likely(2)", x.likely(2), 2 + 2 + 1);
+        Tests.due("likely(3)", x.likely(3), 1 + 1 + 1);
+        x.set(4, 20);
+        Tests.due("lot(0)", x.lot(0), 3);
+        Tests.due("likely(3) of one beside the lot", x.likely(3), 3);
     }
 
     // ---- promise 24

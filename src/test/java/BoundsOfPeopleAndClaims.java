@@ -203,7 +203,41 @@ public final class BoundsOfPeopleAndClaims {
         for (int p = 0; p < 4; p++) Tests.due("personOf(" + p + ", 3)", x.personOf(p, 3), 9);
     }
 
+    /** The one is in a claim, if anyone of it is; the one who is asked about need not be there himself. */
+    static void promise06InClaimsByHisOne() {
+        CrashTies x = Scenes.with(4, 3);
+        x.seat(0, 0, 0);
+        x.seat(1, 1, 2);
+        x.seat(2, 2, 3);
+        Tests.due("personOf(1, 3) ahead of it", x.personOf(1, 3), 0);
+        x.join(2, 0);
+        x.join(1, 2);
+        for (int p = 0; p < 3; p++) Tests.due("personOf(" + p + ", 3)", x.personOf(p, 3), 2);
+        Tests.due("personOf(3, 3)", x.personOf(3, 3), 1);
+        x.seat(1, 1, -1);
+        Tests.due("personOf(1, 3) after one left", x.personOf(1, 3), 1);
+    }
+
     // ---- promise 7
+
+    /** Of each person the town stays his own. */
+    static void promise07TownsStay() {
+        CrashTies x = new CrashTies();
+        for (int p = 0; p < 4; p++) x.person(3 - p, false);
+        x.join(3, 1);
+        x.join(1, 0);
+        for (int p = 0; p < 4; p++) Tests.due("personOf(" + p + ", 0)", x.personOf(p, 0), 3 - p);
+    }
+
+    /** Who sits where stays as it was, though two of one claim come to be one. */
+    static void promise07SeatsStay() {
+        CrashTies x = Scenes.with(3, 1);
+        for (int p = 0; p < 3; p++) x.seat(0, p, 2 - p);
+        Tests.due("join(0, 2)", x.join(0, 2), 1);
+        for (int p = 0; p < 3; p++) Tests.due("claimOf(0, 1" + p + ")", x.claimOf(0, 10 + p), 2 - p);
+        Tests.due("seat(0, 0, 0)", x.seat(0, 0, 0), -4);
+        Tests.due("seat(0, 1, 2)", x.seat(0, 1, 2), -4);
+    }
 
     static void promise07People() {
         for (int p : new int[] {-1, 6, 10, Tests.MIN, Tests.MAX}) {

@@ -103,6 +103,32 @@ public final class BoundsOfTies {
         Tests.due("tie(0, 1) by one who came to be a hub", x.tie(0, 1), 0);
     }
 
+    /** A one is a hub by any of those in it, also by one who is not the least and sits in neither claim. */
+    static void promise12TermsHubByAnotherOfTheOne() {
+        CrashTies x = Scenes.with(2, 2);
+        x.person(0, true);
+        x.seat(0, 0, 0);
+        x.seat(1, 0, 0);
+        Tests.due("tie(0, 1)", x.tie(0, 1), 2);
+        x.join(2, 0);
+        Tests.due("tie(0, 1) by one who came to be a hub", x.tie(0, 1), 0);
+        x.seat(0, 0, 1);
+        x.seat(1, 0, 1);
+        Tests.due("tie(0, 1) by another one", x.tie(0, 1), 2);
+    }
+
+    /** Two people who are one tie as one does, whoever of them is the least. */
+    static void promise12TermsTheSameOneByTwoPeople() {
+        CrashTies x = Scenes.with(3, 2);
+        x.seat(0, 0, 2);
+        x.seat(1, 1, 1);
+        Tests.due("tie(0, 1) by two who are not one", x.tie(0, 1), 0);
+        x.join(1, 2);
+        Tests.due("tie(0, 1) by two who are one", x.tie(0, 1), 4);
+        x.join(0, 2);
+        Tests.due("tie(0, 1) by two of three who are one", x.tie(0, 1), 4);
+    }
+
     static void promise12TermsBumpAboveZero() {
         weighs(1, 0, 0, 0);
         weighs(1, 0, 1, 2);
@@ -237,6 +263,15 @@ public final class BoundsOfTies {
         for (int c = 0; c < 4; c++) Tests.due("hang(" + c + ")", x.hang(c), c % 2 == 0 ? 5 : 10);
     }
 
+    /** Nobody hangs by a hub: he ties nothing. */
+    static void promise14HubsTieNothing() {
+        CrashTies x = new CrashTies();
+        x.person(0, true);
+        Scenes.claims(x, 3);
+        for (int c = 0; c < 3; c++) x.seat(c, c, 0);
+        for (int c = 0; c < 3; c++) Tests.due("hang(" + c + ")", x.hang(c), 1 << c);
+    }
+
     // ---- promise 15
 
     static void promise15People() {
@@ -318,6 +353,49 @@ public final class BoundsOfTies {
         Tests.due("steps(0, 2) from a hub to a hub", both.steps(0, 2), 2);
     }
 
+    /** A one whom nobody passes is a hub by any of those in it. */
+    static void promise15TermsHubByAnotherOfTheOne() {
+        CrashTies x = line(9);
+        Tests.due("steps(4, 6)", x.steps(4, 6), 2);
+        x.seat(8, 1, -1);
+        x.join(5, 9);
+        Tests.due("steps(4, 6) past one who came to be a hub", x.steps(4, 6), -3);
+        Tests.due("steps(4, 5) to him", x.steps(4, 5), 1);
+        Tests.due("steps(9, 6) from him", x.steps(9, 6), 1);
+    }
+
+    /** One goes on from the claims of all who are one. */
+    static void promise15TermsWayByTwoWhoAreOne() {
+        CrashTies x = Scenes.with(4, 2);
+        x.seat(0, 0, 0);
+        x.seat(0, 1, 1);
+        x.seat(1, 2, 2);
+        x.seat(1, 3, 3);
+        Tests.due("steps(0, 3)", x.steps(0, 3), -3);
+        x.join(2, 1);
+        Tests.due("steps(0, 3) by way of two who are one", x.steps(0, 3), 2);
+        Tests.due("steps(3, 0)", x.steps(3, 0), 2);
+        Tests.due("steps(2, 0)", x.steps(2, 0), 1);
+        Tests.due("steps(1, 3)", x.steps(1, 3), 1);
+    }
+
+    /** A claim is a step, of whatever kind, and though nothing ties it with others. */
+    static void promise15TermsClaimsOfEachKind() {
+        for (int kind = 0; kind < 6; kind++) {
+            CrashTies x = Scenes.with(3, 0);
+            x.claim(kind, 99, 3, 0, 0);
+            x.claim(kind, 0, 0, 9, 99);
+            x.set(0, 0);
+            x.set(2, 0);
+            x.seat(0, 0, 0);
+            x.seat(0, 3, 1);
+            x.seat(1, 3, 1);
+            x.seat(1, 1, 2);
+            Tests.due("steps(0, 1) by kind " + kind, x.steps(0, 1), 1);
+            Tests.due("steps(0, 2) by kind " + kind, x.steps(0, 2), 2);
+        }
+    }
+
     static void promise15TermsWayAroundAHub() {
         CrashTies x = new CrashTies();
         for (int p = 0; p < 5; p++) x.person(0, p == 1);
@@ -353,6 +431,29 @@ public final class BoundsOfTies {
         CrashTies x = Scenes.with(1, 9);
         for (int c = 0; c < 9; c++) x.seat(c, c % 2, 0);
         Tests.due("turned(0)", x.turned(0), 20);
+    }
+
+    /** A hub is turned as anyone is. */
+    static void promise16HubsToo() {
+        CrashTies x = new CrashTies();
+        x.person(0, true);
+        Scenes.claims(x, 3);
+        for (int c = 0; c < 3; c++) x.seat(c, c % 2, 0);
+        Tests.due("turned(0) of a hub", x.turned(0), 2);
+    }
+
+    /** In front is one, behind another of whom he is one. */
+    static void promise16HisOneInBothPlaces() {
+        CrashTies x = Scenes.with(3, 2);
+        x.seat(0, 0, 2);
+        x.seat(1, 1, 1);
+        for (int p = 0; p < 3; p++) Tests.due("turned(" + p + ") ahead of it", x.turned(p), 0);
+        x.join(2, 1);
+        Tests.due("turned(1)", x.turned(1), 1);
+        Tests.due("turned(2)", x.turned(2), 1);
+        Tests.due("turned(0)", x.turned(0), 0);
+        x.join(0, 1);
+        Tests.due("turned(0) who sits nowhere himself", x.turned(0), 1);
     }
 
     static void promise16OneClaimIsNoPair() {

@@ -1,10 +1,16 @@
 import com.sun.source.tree.*;
 import com.sun.source.util.JavacTask;
+import com.sun.source.util.TreePath;
 import com.sun.source.util.TreePathScanner;
+import com.sun.source.util.Trees;
 import java.nio.file.Files;
 import java.nio.file.Path;
 import java.util.*;
+import javax.lang.model.element.Element;
 import javax.lang.model.element.Modifier;
+import javax.lang.model.type.ArrayType;
+import javax.lang.model.type.TypeKind;
+import javax.lang.model.type.TypeMirror;
 import javax.tools.JavaCompiler;
 import javax.tools.ToolProvider;
 
@@ -24,7 +30,8 @@ public final class LanguageRules {
         var files = compiler.getStandardFileManager(null, null, null);
         JavacTask task = (JavacTask) compiler.getTask(null, files, null, List.of("-proc:none"), null, files.getJavaFileObjects(file));
         CompilationUnitTree unit = task.parse().iterator().next();
-        Scan scan = new Scan(unit);
+        task.analyze();
+        Scan scan = new Scan(unit, Trees.instance(task));
         scan.scan(unit, null);
         scan.tell();
         if (wrong != 0) System.exit(1);
@@ -32,7 +39,18 @@ public final class LanguageRules {
 
     private static final class Scan extends TreePathScanner<Void, Void> {
         private static final Set<String> TYPES = Set.of("String", "StringBuilder", "Integer", "ArrayList", "List", "Long", "Math", "System", "Arrays");
+        /** What stands in rule 4, each class with its methods; of Integer, Long and Math all static ones but the Exact ones. */
+        private static final Map<String, Set<String>> LIBRARY = Map.of(
+            "java.lang.Object", Set.of("<init>"),
+            "java.lang.String", Set.of("length", "charAt", "isEmpty", "equals", "indexOf", "substring", "toCharArray"),
+            "java.lang.StringBuilder", Set.of("append", "charAt", "setCharAt", "setLength", "deleteCharAt", "reverse", "length", "toString"),
+            "java.util.ArrayList", Set.of("add", "get", "set", "remove", "size", "isEmpty", "clear"),
+            "java.util.List", Set.of("add", "get", "set", "remove", "size", "isEmpty", "clear", "of"),
+            "java.lang.System", Set.of("arraycopy"),
+            "java.util.Arrays", Set.of("copyOf", "copyOfRange", "fill"));
+        private static final Set<String> NUMBERS = Set.of("java.lang.Integer", "java.lang.Long", "java.lang.Math");
         private final CompilationUnitTree unit;
+        private final Trees trees;
         private final Set<String> publicNames = new HashSet<>();
         private final Set<String> otherNames = new HashSet<>();
         private final Set<String> classes = new HashSet<>();
@@ -40,8 +58,9 @@ public final class LanguageRules {
         private final Map<String, Set<String>> calls = new HashMap<>();
         private String method = "";
 
-        Scan(CompilationUnitTree unit) {
+        Scan(CompilationUnitTree unit, Trees trees) {
             this.unit = unit;
+            this.trees = trees;
             if (!unit.getImports().isEmpty()) say("an import that is not needed");
             if (unit.getPackageName() != null) say("a package line");
         }
@@ -95,8 +114,60 @@ public final class LanguageRules {
             String name = called.substring(called.lastIndexOf('.') + 1);
             if (name.endsWith("Exact")) refuse(tree, "a function that throws");
             if (!method.isEmpty()) calls.get(method).add(name);
+            library(tree);
             return super.visitMethodInvocation(tree, v);
         }
+
+        private void library(MethodInvocationTree tree) {
+            Element called = trees.getElement(getCurrentPath());
+            if (called == null) {
+                refuse(tree, "a call of what is not known");
+                return;
+            }
+            String of = called.getEnclosingElement().toString();
+            String name = called.getSimpleName().toString();
+            boolean own = of.equals("CrashTies") || of.startsWith("CrashTies.");
+            boolean listed = LIBRARY.getOrDefault(of, Set.of()).contains(name) || NUMBERS.contains(of) && called.getModifiers().contains(Modifier.STATIC);
+            if (!own && !listed) refuse(tree, "a call of the library that is not listed");
+            boolean rows = of.equals("java.lang.System") || of.equals("java.util.Arrays");
+            if (rows && !own) for (ExpressionTree part : tree.getArguments()) if (!isNumbers(typeOf(part))) refuse(tree, "rows of the library that are no numbers");
+        }
+
+        private TypeMirror typeOf(Tree part) {
+            return trees.getTypeMirror(new TreePath(getCurrentPath(), part));
+        }
+
+        /** A number, or an array of numbers. */
+        private static boolean isNumbers(TypeMirror type) {
+            TypeMirror of = type instanceof ArrayType array ? array.getComponentType() : type;
+            return of.getKind().isPrimitive() && of.getKind() != TypeKind.BOOLEAN;
+        }
+
+        private void unchanged(ExpressionTree target) {
+            if (!(target instanceof ArrayAccessTree access)) return;
+            Element row = trees.getElement(TreePath.getPath(unit, access.getExpression()));
+            if (row != null && row.getModifiers().contains(Modifier.STATIC)) refuse(target, "a static array that is changed");
+        }
+
+        @Override public Void visitAssignment(AssignmentTree tree, Void v) { unchanged(tree.getVariable()); return super.visitAssignment(tree, v); }
+        @Override public Void visitCompoundAssignment(CompoundAssignmentTree tree, Void v) { unchanged(tree.getVariable()); return super.visitCompoundAssignment(tree, v); }
+        @Override public Void visitUnary(UnaryTree tree, Void v) {
+            boolean changes = tree.getKind().toString().endsWith("CREMENT");
+            if (changes) unchanged(tree.getExpression());
+            return super.visitUnary(tree, v);
+        }
+
+        @Override public Void visitForLoop(ForLoopTree tree, Void v) {
+            if (tree.getCondition() == null) refuse(tree, "a loop whose end can't be seen");
+            return super.visitForLoop(tree, v);
+        }
+
+        @Override public Void visitLiteral(LiteralTree tree, Void v) {
+            boolean ofLoop = getCurrentPath().getParentPath().getLeaf() instanceof ParenthesizedTree && tree.getKind() == Tree.Kind.BOOLEAN_LITERAL;
+            if (ofLoop) refuse(tree, "a loop whose end can't be seen");
+            return super.visitLiteral(tree, v);
+        }
+
 
         @Override public Void visitMemberSelect(MemberSelectTree tree, Void v) {
             String of = tree.getExpression().toString();
@@ -117,9 +188,14 @@ public final class LanguageRules {
         }
 
         @Override public Void visitBinary(BinaryTree tree, Void v) {
-            boolean text = tree.getLeftOperand().getKind() == Tree.Kind.STRING_LITERAL || tree.getRightOperand().getKind() == Tree.Kind.STRING_LITERAL;
-            if (text) refuse(tree, "texts joined by a sign");
+            boolean text = isText(tree.getLeftOperand()) || isText(tree.getRightOperand());
+            if (text) refuse(tree, "texts joined or compared by a sign");
             return super.visitBinary(tree, v);
+        }
+
+        private boolean isText(Tree part) {
+            String type = typeOf(part).toString();
+            return type.equals("java.lang.String") || type.equals("java.lang.Integer");
         }
 
         void tell() {
